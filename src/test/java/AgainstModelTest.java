@@ -69,6 +69,9 @@ public final class AgainstModelTest {
     private void run() throws Exception {
         int bits = 1 + below(keys < 100 ? 3 : 6);
         call("rebuild", bits, 1 + below(4), 1 + below(8), below(100));
+        for (int adds = below(3) == 0 ? 20 + below(150) : 0; adds > 0; adds--) {
+            call("add", below(keys));
+        }
         while (calls < CALLS && !failed) {
             if (below(100) < 4) {
                 text();
