@@ -77,24 +77,24 @@ public final class CuckooAudit {
     public int add(int key) throws IllegalArgumentException, IllegalStateException {
         checkKey(key);
         thought.copyFrom(current);
-        return accept(thought.addKey(key));
+        return acceptIfPossible(thought.addKey(key));
     }
 
     public int addShortest(int key) throws IllegalArgumentException, IllegalStateException {
         checkKey(key);
         thought.copyFrom(current);
-        return accept(thought.addKeyShortest(key));
+        return acceptIfPossible(thought.addKeyShortest(key));
     }
 
     public int delete(int key) throws IllegalArgumentException, IllegalStateException {
         checkKey(key);
         thought.copyFrom(current);
-        return accept(thought.deleteKey(key));
+        return acceptIfPossible(thought.deleteKey(key));
     }
 
     public int grow() throws IllegalStateException {
         thought.copyFrom(current);
-        return accept(thought.doubleBuckets());
+        return acceptIfPossible(thought.doubleBuckets());
     }
 
     public int rebuild(int bits, int slots, int length, int seed)
@@ -105,7 +105,7 @@ public final class CuckooAudit {
         checkArgument(within(seed, 0, MAX_SEED));
         thought.copyFrom(current);
         boolean possible = thought.refill(bits, slots, length, seed);
-        return accept(possible ? thought.stashSize() : NONE);
+        return acceptIfPossible(possible ? thought.stashSize() : NONE);
     }
 
     public int setLimit(int limit) throws IllegalArgumentException {
@@ -332,11 +332,16 @@ public final class CuckooAudit {
         return 31 * h + history.size();
     }
 
-    /** Ends an undoable change that was made in thought: it becomes the state, unless it has failed. */
-    private int accept(int answer) {
+    /** Ends an undoable change that may have failed in thought. */
+    private int acceptIfPossible(int answer) {
         if (answer == NONE) {
             throw new IllegalStateException("not possible in this state");
         }
+        return accept(answer);
+    }
+
+    /** Ends an undoable change that was made in thought: it becomes the state. */
+    private int accept(int answer) {
         history.push(current);
         current.copyFrom(thought);
         return answer;
@@ -391,6 +396,8 @@ public final class CuckooAudit {
 
     /** The codes of the keys. */
     private static final class Code {
+        private static final int BODIES = 16384;
+
         static int of(int key, int seed) {
             long v = (key * 48271L + seed * 7919L + 12345L) % 1048576L;
             v = v ^ (v / 512L);
@@ -400,15 +407,15 @@ public final class CuckooAudit {
         }
 
         static int tagOf(int code) {
-            return code / 16384;
+            return code / BODIES;
         }
 
         static int bodyOf(int code) {
-            return code % 16384;
+            return code % BODIES;
         }
 
         static int homeOf(int code, int bits) {
-            return bodyOf(code) & ((1 << bits) - 1);
+            return (code % BODIES) & ((1 << bits) - 1);
         }
 
         /** The other one of the two buckets of a key or an entry with this tag. */
@@ -419,7 +426,7 @@ public final class CuckooAudit {
 
         /** The fingerprint of a length: the bits of the body above those of the home. */
         static int printOf(int code, int bits, int length) {
-            return (bodyOf(code) >> bits) & ((1 << length) - 1);
+            return ((code % BODIES) >> bits) & ((1 << length) - 1);
         }
     }
 

@@ -78,7 +78,8 @@ public final class LanguageTest {
 
     private static void face() throws Exception {
         Class<?> c = CuckooAudit.class;
-        check(Modifier.isPublic(c.getModifiers()) && Modifier.isFinal(c.getModifiers()), "the class is not public final");
+        check(Modifier.isPublic(c.getModifiers()), "the class is not public");
+        check(Modifier.isFinal(c.getModifiers()), "the class is not final");
         check(c.getSuperclass() == Object.class && c.getInterfaces().length == 0, "the class extends something");
         check(c.getDeclaredConstructors().length == 1, "not one constructor");
         Constructor<?> made = c.getDeclaredConstructor();
@@ -98,10 +99,15 @@ public final class LanguageTest {
             boolean isNone = f.getName().equals("NONE");
             check(Modifier.isPublic(f.getModifiers()) == isNone, "visible: " + f);
             check(isNone || Modifier.isPrivate(f.getModifiers()), "visible: " + f);
-            check(!Modifier.isStatic(f.getModifiers()) || Modifier.isFinal(f.getModifiers()), "static, not final: " + f);
+            check(isFixed(f), "static, not final: " + f);
         }
         Field none = c.getField("NONE");
-        check(none.getType() == int.class && none.getInt(null) == -1 && Modifier.isStatic(none.getModifiers()), "NONE");
+        check(none.getType() == int.class && Modifier.isStatic(none.getModifiers()), "NONE is no constant");
+        check(none.getInt(null) == -1, "NONE is not -1");
+    }
+
+    private static boolean isFixed(Field f) {
+        return !Modifier.isStatic(f.getModifiers()) || Modifier.isFinal(f.getModifiers());
     }
 
     private static String told(Method m) {
@@ -125,9 +131,8 @@ public final class LanguageTest {
         check(Modifier.isPrivate(c.getModifiers()) && Modifier.isStatic(c.getModifiers()), "not private static: " + c);
         int fields = 0;
         for (Field f : c.getDeclaredFields()) {
-            boolean fixed = Modifier.isStatic(f.getModifiers());
-            fields += fixed ? 0 : 1;
-            check(!fixed || Modifier.isFinal(f.getModifiers()), "static, not final: " + f);
+            fields += Modifier.isStatic(f.getModifiers()) ? 0 : 1;
+            check(isFixed(f), "static, not final: " + f);
         }
         check(fields <= 20, "too many fields: " + c);
         for (Method m : c.getDeclaredMethods()) {
