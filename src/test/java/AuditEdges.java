@@ -1,5 +1,6 @@
 /** The boundary sentences of promises 25 to 32: false keys, and what other numbers would give. */
 final class AuditEdges extends Edges {
+    private static final String KEY_RANGE = "KEYS are the numbers from 0 to 999.";
     private static final String ARGUMENT_OUT_OF_RANGE =
             "Throws `IllegalArgumentException` if an argument is out of range";
 
@@ -20,9 +21,31 @@ final class AuditEdges extends Edges {
         return with(1, 4, 1, 36, 13, 381);
     }
 
+    /**
+     * With the seed 5 the entry of 97 would find -1, and that of 165 would find 1000, if these were keys. False keys
+     * are 511 and 677, which 97 finds, and 493, 494, 719, 756 and 833.
+     */
+    private static CuckooAudit beyondBothEnds() {
+        CuckooAudit x = new CuckooAudit();
+        x.rebuild(1, 4, 1, 5);
+        x.add(97);
+        x.add(165);
+        return x;
+    }
+
     // ---- falseKeys, falseKey, blamed
 
     private static void falseKeys() {
+        edge(25, KEY_RANGE, () -> due("all", beyondBothEnds().falseKeys(0, 999), 7));
+        edge(26, KEY_RANGE, () -> {
+            due("the first and the last", beyondBothEnds().falseKey(0) + " " + beyondBothEnds().falseKey(6), "493 833");
+            due("one more", beyondBothEnds().falseKey(7), NONE);
+        });
+        edge(27, KEY_RANGE, () -> {
+            due("the slot of 97", beyondBothEnds().blamed(0, 0), 2);
+            due("the slot of 165", beyondBothEnds().blamed(0, 1), 5);
+        });
+        edge(32, KEY_RANGE, () -> due("7 of 998", beyondBothEnds().rateBits(), Float.floatToIntBits(7f / 998f)));
         edge(25, "Returns the number of false keys from from to to.", () -> {
             CuckooAudit x = eleven();
             due("all", x.falseKeys(0, 999), 11);
@@ -165,6 +188,12 @@ final class AuditEdges extends Edges {
             other.add(5);
             due("the seed of the filter is not asked", other.bestSeed(20), 19);
         });
+        edge(29, KEY_RANGE, () -> {
+            due("the key 0 is one of the false keys", with(1, 1, 1, 195).bestSeed(20), 14);
+            due("the key 0 is one of the false keys", with(1, 1, 2, 23).bestSeed(20), 10);
+            due("the key 999 is one of the false keys", with(1, 1, 1, 75).bestSeed(20), 13);
+            due("the key 999 is one of the false keys", with(1, 1, 2, 814).bestSeed(20), 3);
+        });
         edge(29, "rebuilt with the other numbers as they are", () -> {
             due("b and f are not changed", with(2, 1, 1, 5).bestSeed(20), bestOf(5, 2, 1));
             due("b and f are not changed", with(1, 1, 2, 130).bestSeed(20), bestOf(130, 1, 2));
@@ -204,9 +233,17 @@ final class AuditEdges extends Edges {
         });
         edge(29, "NONE if rebuilding is possible with none.", () -> {
             due("one seed", noWalks(2, 2, 1, 4, 16, 25, 35, 48, 84, 85).bestSeed(1), NONE);
-            due("twenty seeds", noWalks(4, 5, 25, 2, 8, 10, 11, 18, 22, 24, 25, 50, 53, 63, 64, 68, 73, 74, 81, 89, 97)
-                    .bestSeed(20), NONE);
+            due("twenty seeds", noSeed().bestSeed(20), NONE);
         });
+        edge(29, "NONE is returned only if no exception applies.", () -> {
+            refused("no seeds, none is possible", ARGUMENT, AuditEdges::noSeed, x -> x.bestSeed(0));
+            refused("21 seeds, the first 20 are not possible", ARGUMENT, AuditEdges::noSeed, x -> x.bestSeed(21));
+        });
+    }
+
+    /** Rebuilding is possible with none of the first 20 seeds. */
+    private static CuckooAudit noSeed() {
+        return noWalks(4, 5, 25, 2, 8, 10, 11, 18, 22, 24, 25, 50, 53, 63, 64, 68, 73, 74, 81, 89, 97);
     }
 
     /** One slot a bucket, the limit 0. */
@@ -248,8 +285,7 @@ final class AuditEdges extends Edges {
             due("the limit 10", x.leastBits(1, 5), 2);
             x.setLimit(0);
             due("the limit 0", x.leastBits(1, 5), 3);
-            due("the seed 25", noWalks(4, 5, 25, 2, 8, 10, 11, 18, 22, 24, 25, 50, 53, 63, 64, 68, 73, 74, 81, 89, 97)
-                    .leastBits(1, 5), 4);
+            due("the seed 25", noSeed().leastBits(1, 5), 4);
             changesNothing("leastBits", Edges::busy, y -> y.leastBits(4, 8));
             changesNothing("leastBits with 120 keys", Edges::crowd, y -> y.leastBits(1, 1));
         });
@@ -260,6 +296,10 @@ final class AuditEdges extends Edges {
         edge(30, "- `length`: f, 1 to 8", () -> {
             due("1 and 8", firstKeys(6).leastBits(1, 1) + " " + firstKeys(6).leastBits(1, 8), "2 2");
             refusesOtherNumbers(1, 8, (x, length) -> x.leastBits(2, length));
+        });
+        edge(30, "NONE is returned only if no exception applies.", () -> {
+            refused("a wrong length, no b is possible", ARGUMENT, Edges::crowd, x -> x.leastBits(1, 9));
+            refused("no slots, no b is possible", ARGUMENT, Edges::crowd, x -> x.leastBits(0, 8));
         });
         edge(30, ARGUMENT_OUT_OF_RANGE, () -> {
             refusedEverywhere("both", ARGUMENT, x -> x.leastBits(0, 9));
@@ -296,6 +336,12 @@ final class AuditEdges extends Edges {
             due("all four slots by moves", with(2, 2, 5, 5, 2, 7, 17).couldFit(2, 1, 0), true);
             due("a limit of 0 does not matter", withoutWalks(2, 2, 5, 5, 2, 7, 17).couldFit(2, 1, 0), true);
         });
+        edge(31, "could be distributed to buckets, each to its home or its other bucket", () -> {
+            CuckooAudit x = with(2, 4, 5, 1, 2, 9, 12, 21);
+            for (int seed = 0; seed < 100; seed++) {
+                due("the seed " + seed, x.couldFit(2, 2, seed), fitByCounting(new int[] {1, 2, 9, 12, 21}, seed));
+            }
+        });
         String[] ranges = {"- `bits`: b, 1 to 6", "- `slots`: s, 1 to 4", "- `seed`: the seed, 0 to 99"};
         int[][] limits = {{1, 6}, {1, 4}, {0, 99}};
         for (int place = 0; place < ranges.length; place++) {
@@ -320,6 +366,23 @@ final class AuditEdges extends Edges {
         });
     }
 
+    /** All ways to give the keys to one of their two buckets each are tried, with 4 buckets of 2 slots. */
+    private static boolean fitByCounting(int[] keys, int seed) {
+        for (int way = 0; way < 1 << keys.length; way++) {
+            int[] entries = new int[4];
+            boolean fits = true;
+            for (int i = 0; i < keys.length; i++) {
+                int bucket = (way >> i & 1) == 0 ? homeOf(keys[i], 2, seed) : otherOf(keys[i], 2, seed);
+                entries[bucket]++;
+                fits = fits && entries[bucket] <= 2;
+            }
+            if (fits) {
+                return true;
+            }
+        }
+        return false;
+    }
+
     private static void rateBits() {
         edge(32, "Returns the rate of false keys.", () -> {
             due("no keys", new CuckooAudit().rateBits(), 0);
@@ -329,9 +392,12 @@ final class AuditEdges extends Edges {
                 + " divided by the number of keys that are not present as a float.", () -> {
             due("11 of 997", eleven().rateBits(), Float.floatToIntBits(11f / 997f));
             due("3 of 999", with(2, 2, 5, 365).rateBits(), Float.floatToIntBits(3f / 999f));
+            due("31 of 992, 2^-5", with(1, 4, 1, 44, 29, 86, 28, 97, 58, 37, 2).rateBits(), 122 << 23);
             CuckooAudit most = with(6, 4, 1);
             for (int key = 0; key < 120; key++) {
                 most.add(key);
+                int falseOnes = most.falseKeys(0, 999);
+                due("behind the key " + key, most.rateBits(), Float.floatToIntBits((float) falseOnes / (999 - key)));
             }
             due("12 of 880", most.rateBits(), Float.floatToIntBits(12f / 880f));
         });

@@ -46,6 +46,11 @@ final class ChangeEdges extends Edges {
     // ---- add
 
     private static void addWithoutWalk() {
+        edge(9, "ADDING a key makes an entry with its tag, L = f and its fingerprint.", () -> {
+            dueSlot(added(with(1, 1, 1), 505, 0), 1, 0, 45, 1, 1, 0);
+            dueSlot(added(with(1, 1, 8), 505, 0), 1, 0, 45, 8, 255, 0);
+            dueSlot(added(with(6, 1, 8), 0, 0), 62, 0, 35, 8, 29, 0);
+        });
         edge(9, "If its home has an empty slot, the entry comes to the first one, with side 0", () -> {
             dueLayout(added(with(2, 3, 5), 1, 0), "-/-/- 30/-/- -/-/- -/-/-");
             dueLayout(added(with(2, 3, 5, 1, 2), 9, 0), "-/-/- 30/45/57 -/-/- -/-/-");
@@ -80,6 +85,13 @@ final class ChangeEdges extends Edges {
             dueLayout(added(with(2, 3, 5, 51, 41, 49, 8, 4, 7), 11, 4), "35'/-/- -/-/- 33/63/45' 1'/9'/3");
             dueLayout(added(with(2, 4, 5, 25, 58, 9, 21, 31, 29, 33, 55, 38, 53, 34, 50, 5), 26, 8),
                     "59/61'/31/26 23'/42/57/44 50/0/37/40' 59/16'/-/-");
+        });
+        edge(9, "the bucket becomes the other one of the two buckets of this entry (the bucket xor the step of its"
+                + " tag)", () -> {
+            dueLayout(with(3, 1, 5, 48, 52), "11 - - - - 13' - -");
+            dueLayout(added(with(3, 1, 5, 48, 52), 26, 2), "13 - - 11' - 61 - -");
+            dueLayout(with(2, 1, 5, 5, 2, 7), "45' 44 - 3");
+            dueLayout(added(with(2, 1, 5, 5, 2, 7), 17, 3), "3' 45 44' 28");
         });
         edge(9, "with side 0 if the bucket is its home, otherwise side 1, and the entry that was there is held", () -> {
             dueLayout(with(2, 1, 5, 22, 10, 39), "29 - 45 22");
@@ -195,9 +207,11 @@ final class ChangeEdges extends Edges {
     // ---- addShortest
 
     private static void shortest(String want, int moves, CuckooAudit x, int key) {
+        String before = keysOf(x);
         due("leastMoves(" + key + ")", x.leastMoves(key), moves);
         due("addShortest(" + key + ")", x.addShortest(key), moves);
         dueLayout(x, want);
+        due("the keys", keysOf(x), before + " " + key);
     }
 
     private static void shortestOrder() {
@@ -212,6 +226,11 @@ final class ChangeEdges extends Edges {
             shortest("36' - 52 - - 50 - 50'", 1, withoutWalks(3, 1, 5, 42, 79, 62), 37);
             shortest("13/-/- 45/-/- 34/50/63 33'/-/- -/-/- -/-/- 50/13/- 27/36/22", 1,
                     withoutWalks(3, 3, 5, 77, 11, 37, 2, 58, 42, 22, 52, 49, 13), 63);
+        });
+        edge(10, "The first bucket in this order that has an empty slot ends the chain", () -> {
+            shortest("3'/13 26'/- 34/37 22/35", 1, withoutWalks(2, 2, 5, 63, 22, 64, 31, 52, 33), 7);
+            shortest("18/2/59 23'/-/- 25/42'/29 16/1/8'", 1,
+                    withoutWalks(2, 3, 5, 27, 55, 45, 56, 70, 30, 28, 25, 61), 43);
         });
         edge(10, "for its entries in the order of their slots, the other one of the two buckets of the entry", () -> {
             shortest("-/- 47'/- -/- -/- -/- -/- 9/37 16/27", 1, withoutWalks(3, 2, 5, 45, 18, 20, 77), 51);
@@ -228,6 +247,11 @@ final class ChangeEdges extends Edges {
     private static void shortestMoves() {
         edge(10, "The entry by which the last bucket was reached comes to the first empty slot there", () -> {
             shortest("-/-/- 45/59/47 0/15/14 45'/37'/-", 1, withoutWalks(2, 3, 5, 2, 67, 29, 33, 44, 3, 39), 40);
+        });
+        edge(10, "the entry by which the bucket before was reached comes to the slot that has become empty, and so on",
+                () -> {
+            dueLayout(withoutWalks(3, 1, 5, 1, 45, 3, 0, 12), "21' 30 - - - 35' 14 16");
+            shortest("1 30 - - 16' 21 35 14'", 4, withoutWalks(3, 1, 5, 1, 45, 3, 0, 12), 69);
         });
         edge(10, "the new entry comes to the last slot that has become empty (or, without moves, to the first empty"
                 + " slot).", () -> {
@@ -262,6 +286,8 @@ final class ChangeEdges extends Edges {
                 + " NONE", () -> {
             refused("a present key", STATE, Edges::busy, x -> x.addShortest(1));
             refused("a present key in the stash", STATE, Edges::busy, x -> x.addShortest(3));
+            refused("a key twice", STATE, ChangeEdges::addedShortest, x -> x.addShortest(7));
+            refused("a key twice, by add", STATE, ChangeEdges::addedShortest, x -> x.add(7));
             refused("a present key though there is room", STATE, () -> with(2, 2, 5, 1), x -> x.addShortest(1));
             refused("a key more than 120", STATE, Edges::crowd, x -> x.addShortest(120));
             refused("a full filter", STATE, () -> with(1, 1, 5, 1, 2), x -> x.addShortest(3));
@@ -271,6 +297,12 @@ final class ChangeEdges extends Edges {
             refused("a wrong key and 120 keys", ARGUMENT, Edges::crowd, x -> x.addShortest(1000));
             refused("a wrong key and no room", ARGUMENT, () -> with(1, 1, 5, 1, 2), x -> x.addShortest(-1));
         });
+    }
+
+    private static CuckooAudit addedShortest() {
+        CuckooAudit x = with(2, 2, 5, 1, 2);
+        due("addShortest(7)", x.addShortest(7), 0);
+        return x;
     }
 
     // ---- delete
@@ -375,6 +407,12 @@ final class ChangeEdges extends Edges {
     }
 
     private static void deleteRefuses() {
+        edge(11, "At most 120 keys are present.", () -> {
+            CuckooAudit x = crowd();
+            due("one of 120", x.delete(1), 0);
+            due("those around it", x.present(0) + " " + x.present(1) + " " + x.present(118), "0 2 119");
+            due("the last one", x.delete(119) + " " + x.present(117) + " " + x.count(), "0 118 118");
+        });
         edge(11, KEY_OUT_OF_RANGE, () -> refusesOtherKeys((x, key) -> x.delete(key)));
         edge(11, "Throws `IllegalStateException` if the key is not present", () -> {
             refused("a key of none", STATE, CuckooAudit::new, x -> x.delete(0));
@@ -399,12 +437,17 @@ final class ChangeEdges extends Edges {
 
     private static void growMoves() {
         edge(12, "b becomes b + 1.", () -> {
+            CuckooAudit x = with(1, 4, 5);
+            for (int buckets = 4; buckets <= 64; buckets *= 2) {
+                x.grow();
+                due("the numbers", numbersOf(x), buckets + " 4 5 0 10");
+            }
+        });
+        edge(12, "Returns the new number of buckets.", () -> {
             CuckooAudit x = with(1, 1, 5);
             for (int buckets = 4; buckets <= 64; buckets *= 2) {
                 due("grow", x.grow(), buckets);
-                due("the buckets", x.info(0), buckets);
             }
-            due("f stays", x.info(2), 5);
         });
         edge(12, "Each entry of length L gives the lowest bit of its fingerprint, c, to its home, which becomes its old"
                 + " home + c * 2^(old b)", () -> {
@@ -412,6 +455,10 @@ final class ChangeEdges extends Edges {
             dueLayout(x, "57'/3'/33'/3' 30/45/45/44");
             x.grow();
             dueLayout(x, "57'/3'/-/- 30/45/-/44 -/-/33'/3' -/-/45/-");
+            CuckooAudit all = with(2, 4, 5, 0, 1, 2, 3, 4, 5, 6, 7, 8, 9, 10, 11, 12, 13, 16, 17);
+            dueLayout(all, "29/21'/54/28' 30/45/44/57 35/14/34/1 45/3/33'/13'");
+            all.grow();
+            dueLayout(all, "-/21'/-/- 30/45/-/57 -/-/-/- 45/-/33'/13' 29/-/54/28' -/-/44/- 35/14/34/1 -/3/-/-");
             CuckooAudit last = with(5, 1, 8, 505);
             last.grow();
             due("bucket 31 of 32 with the bit 1", last.place(505), 252);

@@ -130,6 +130,13 @@ final class KeyEdges extends Edges {
             due("6 and 8", fresh().body(6) + " " + fresh().body(8), "3270 12774");
             due("0 and 999 with seed 99", withSeed(2, 99).body(0) + " " + withSeed(2, 99).body(999), "11647 5738");
         });
+        edge(3, "(quotients rounded down)", () -> {
+            for (int seed : new int[] {0, 99}) {
+                for (int key = 0; key < 1000; key += 200) {
+                    tagsAndBodies(withSeed(2, seed), seed, key, key + 199);
+                }
+            }
+        });
         edge(2, "The tag of the key is v / 16384 (0 to 63)", () -> {
             due("the lowest tag", fresh().tag(29), 0);
             due("the highest tag", fresh().tag(49), 63);
@@ -174,6 +181,13 @@ final class KeyEdges extends Edges {
                 }
             }
         });
+    }
+
+    private static void tagsAndBodies(CuckooAudit x, int seed, int from, int to) {
+        for (int key = from; key <= to; key++) {
+            due("tag of " + key, x.tag(key), tagOf(key, seed));
+            due("body of " + key, x.body(key), bodyOf(key, seed));
+        }
     }
 
     private static void twoBuckets(CuckooAudit x, int bits, int from, int to) {
@@ -255,6 +269,14 @@ final class KeyEdges extends Edges {
     }
 
     private static void places() {
+        edge(6, "where the slots of the home come first, in ascending order, then those of the other bucket", () -> {
+            int[] keys = {1, 2, 9, 12, 21, 26, 62, 81};
+            CuckooAudit x = with(2, 4, 5, keys);
+            for (int i = 0; i < keys.length; i++) {
+                due("place(" + keys[i] + ")", x.place(keys[i]), i < 4 ? 4 + i : i - 4);
+                due("found(" + keys[i] + ")", x.found(keys[i]), true);
+            }
+        });
         edge(6, "Returns 4 * bucket + slot", () -> {
             CuckooAudit x = with(6, 4, 8);
             int[] keys = keysOfHome(63, 4);
@@ -276,6 +298,10 @@ final class KeyEdges extends Edges {
             due("of a new object", fresh().place(0), NONE);
             due("a key that was deleted", deleted(365).place(365), NONE);
             due("a key with the same home alone", with(2, 2, 5, 365).place(7), NONE);
+        });
+        edge(6, "NONE is returned only if no exception applies.", () -> {
+            refused("a wrong key of a new object", ARGUMENT, CuckooAudit::new, x -> x.place(1000));
+            refused("a wrong key of a new object", ARGUMENT, CuckooAudit::new, x -> x.place(-1));
         });
         edge(6, "Tells where the entry is that would be removed if the key were present and deleted.", () -> {
             due("a false key", with(2, 2, 5, 365).place(747), 12);

@@ -111,6 +111,21 @@ final class QuestionEdges extends Edges {
             dueSlot(tags, 2, 1, 63, 8, 5650 >> 2 & 255, 0);
             dueSlot(with(2, 1, 5, 1, 2), 0, 0, 45, 5, 14, 1);
         });
+        edge(18, "as a number with bit b as bit 0", () -> {
+            dueSlot(with(2, 1, 8, 0), 2, 0, 35, 8, 0b11011111, 0);
+            dueSlot(with(1, 1, 8, 0), 0, 0, 35, 8, 0b10111111, 0);
+            dueSlot(with(6, 1, 8, 0), 62, 0, 35, 8, 0b00011101, 0);
+            dueSlot(with(2, 1, 1, 0), 2, 0, 35, 1, 1, 0);
+        });
+        edge(18, "THE FILTER has 2^b buckets, numbered from 0, with s slots each, numbered from 0", () -> {
+            for (int bits = 1; bits <= 6; bits++) {
+                for (int slots = 1; slots <= 4; slots++) {
+                    CuckooAudit x = with(bits, slots, 5);
+                    due("the first slot", x.slot(0, 0, 0), NONE);
+                    due("the last slot", x.slot((1 << bits) - 1, slots - 1, 0), NONE);
+                }
+            }
+        });
         edge(18, "Returns that number; NONE if the slot is empty.", () -> {
             dueSlot(new CuckooAudit(), 0, 0, NONE, NONE, NONE, NONE);
             dueSlot(new CuckooAudit(), 3, 1, NONE, NONE, NONE, NONE);
@@ -130,7 +145,6 @@ final class QuestionEdges extends Edges {
                 for (int slots = 1; slots <= 4; slots++) {
                     int b = bits;
                     int s = slots;
-                    due("the last slot", with(b, s, 5).slot((1 << b) - 1, s - 1, 0), NONE);
                     refused("bucket 2^" + b, POSITION, () -> with(b, s, 5), x -> x.slot(1 << b, 0, 0));
                     refused("slot " + s, POSITION, () -> with(b, s, 5), x -> x.slot(0, s, 0));
                 }
@@ -230,6 +244,10 @@ final class QuestionEdges extends Edges {
             due("a full stash, no steps", limited(0, with(1, 1, 5, 1, 2, 3, 4, 5)).walk(6), NONE);
             due("a full stash, but room", with(2, 1, 5, 1, 2, 9, 12, 21).walk(17), 0);
         });
+        edge(21, NONE_LAST, () -> {
+            refused("a wrong key without room", ARGUMENT, () -> with(1, 1, 5, 1, 2, 3, 4, 5), x -> x.walk(1000));
+            refused("a wrong key without room", ARGUMENT, () -> with(1, 1, 5, 1, 2, 3, 4, 5), x -> x.walk(-1));
+        });
         edge(21, "(also if it is present, or 120 keys are)", () -> {
             due("a present key", with(2, 2, 5, 1).walk(1), 0);
             due("a present key, three steps", with(2, 1, 5, 5, 2, 7).walk(7), 3);
@@ -326,6 +344,10 @@ final class QuestionEdges extends Edges {
             due("a full filter", with(1, 1, 5, 1, 2).leastMoves(3), NONE);
             due("empty buckets that are not reached", with(2, 1, 5, 1, 2).leastMoves(9), NONE);
             due("another key of the same filter", with(2, 1, 5, 1, 2).leastMoves(5), 0);
+        });
+        edge(23, NONE_LAST, () -> {
+            refused("a wrong key of a full filter", ARGUMENT, () -> with(1, 1, 5, 1, 2), x -> x.leastMoves(1000));
+            refused("a wrong key of a full filter", ARGUMENT, () -> with(1, 1, 5, 1, 2), x -> x.leastMoves(-1));
         });
         edge(23, "(also if the key is present, or 120 keys are)", () -> {
             due("a present key", with(2, 1, 5, 5, 2, 7).leastMoves(7), 2);

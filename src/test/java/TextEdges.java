@@ -418,6 +418,16 @@ final class TextEdges extends Edges {
             due("a new object", new CuckooAudit().digest(), digestOf(new CuckooAudit(), 0, 0));
             due("a new object", new CuckooAudit().digest(), -5599141824529239349L);
         });
+        edge(37, "info() for what = 0 to 8", () -> {
+            CuckooAudit x = new CuckooAudit();
+            x.rebuild(1, 1, 1, 0);
+            due("other numbers", x.digest(), digestOf(x, 0, 1));
+            x.rebuild(1, 1, 8, 99);
+            x.setLimit(50);
+            due("the highest seed, length and limit", x.digest(), digestOf(x, 0, 3));
+            CuckooAudit y = with(6, 1, 8);
+            due("64 buckets, which cannot be doubled", y.digest(), digestOf(y, 0, 1));
+        });
         edge(37, "for each bucket, and in it for each slot, the values of slot() for what = 0 to 3 (four times NONE if"
                 + " it is empty)", () -> {
             due("one slot of four in use", with(1, 2, 5, 1).digest(), digestOf(with(1, 2, 5, 1), 0, 2));
@@ -437,6 +447,15 @@ final class TextEdges extends Edges {
     }
 
     private static void digestOfParts() {
+        edge(37, "KEYS are the numbers from 0 to 999.", () -> {
+            // With the seed 5 the entries of 97 and 165 would find -1 and 1000, if these were keys.
+            CuckooAudit x = new CuckooAudit();
+            x.rebuild(1, 4, 1, 5);
+            x.add(97);
+            x.add(165);
+            due("seven false keys", x.falseKeys(0, 999), 7);
+            due("the digest", x.digest(), digestOf(x, 0, 3));
+        });
         edge(37, "count(), and the present keys in their order", () -> {
             CuckooAudit x = with(1, 2, 5, 1, 2);
             CuckooAudit y = with(1, 2, 5, 2, 1);
