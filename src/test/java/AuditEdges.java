@@ -1,6 +1,5 @@
-/** The boundary sentences of promises 25 to 32: false keys, and what other numbers would give. */
+/** The sentences of promises 25 to 32: false keys, and what other numbers would give. */
 final class AuditEdges extends Edges {
-    private static final String KEY_RANGE = "KEYS are the numbers from 0 to 999.";
     private static final String ARGUMENT_OUT_OF_RANGE =
             "Throws `IllegalArgumentException` if an argument is out of range";
 
@@ -46,7 +45,7 @@ final class AuditEdges extends Edges {
             due("the slot of 165", beyondBothEnds().blamed(0, 1), 5);
         });
         edge(32, KEY_RANGE, () -> due("7 of 998", beyondBothEnds().rateBits(), Float.floatToIntBits(7f / 998f)));
-        edge(25, "Returns the number of false keys from from to to.", () -> {
+        edge(25, "Counts false keys. Returns the number of false keys from from to to.", () -> {
             CuckooAudit x = eleven();
             due("all", x.falseKeys(0, 999), 11);
             due("the first key", x.falseKeys(0, 0), 1);
@@ -72,7 +71,8 @@ final class AuditEdges extends Edges {
     }
 
     private static void falseKey() {
-        edge(26, "- `index`: its position among all false keys in ascending order, from 0", () -> {
+        edge(26, "Returns a false key. - `index`: its position among all false keys in ascending order, from 0"
+                + " Returns the key", () -> {
             int[] keys = {0, 123, 306, 346, 366, 443, 544, 749, 804, 814, 999};
             for (int i = 0; i < keys.length; i++) {
                 due("falseKey(" + i + ")", eleven().falseKey(i), keys[i]);
@@ -91,7 +91,7 @@ final class AuditEdges extends Edges {
     }
 
     private static void blamed() {
-        edge(27, "by the entry of a slot alone (that would not be found if the slot were empty)", () -> {
+        edge(27, "that are found by the entry of a slot alone (that would not be found if the slot were empty)", () -> {
             due("the only entry", with(2, 2, 5, 365).blamed(3, 0), 3);
             due("the first of two", with(2, 2, 5, 365, 684).blamed(3, 0), 0);
             due("the second of two", with(2, 2, 5, 365, 684).blamed(3, 1), 0);
@@ -194,7 +194,8 @@ final class AuditEdges extends Edges {
             due("the key 999 is one of the false keys", with(1, 1, 1, 75).bestSeed(20), 13);
             due("the key 999 is one of the false keys", with(1, 1, 2, 814).bestSeed(20), 3);
         });
-        edge(29, "rebuilt with the other numbers as they are", () -> {
+        edge(29, "Finds the seed with which the filter, rebuilt with the other numbers as they are, would have the"
+                + " fewest false keys", () -> {
             due("b and f are not changed", with(2, 1, 1, 5).bestSeed(20), bestOf(5, 2, 1));
             due("b and f are not changed", with(1, 1, 2, 130).bestSeed(20), bestOf(130, 1, 2));
             changesNothing("bestSeed", Edges::busy, x -> x.bestSeed(20));
@@ -235,7 +236,7 @@ final class AuditEdges extends Edges {
             due("one seed", noWalks(2, 2, 1, 4, 16, 25, 35, 48, 84, 85).bestSeed(1), NONE);
             due("twenty seeds", noSeed().bestSeed(20), NONE);
         });
-        edge(29, "NONE is returned only if no exception applies.", () -> {
+        edge(29, NONE_LAST, () -> {
             refused("no seeds, none is possible", ARGUMENT, AuditEdges::noSeed, x -> x.bestSeed(0));
             refused("21 seeds, the first 20 are not possible", ARGUMENT, AuditEdges::noSeed, x -> x.bestSeed(21));
         });
@@ -280,7 +281,8 @@ final class AuditEdges extends Edges {
                 due("120 keys, " + slots + " slots", withKeys[120].leastBits(slots, 8), most);
             }
         });
-        edge(30, "(with the seed and the walk limit as they are)", () -> {
+        edge(30, "Finds the smallest b with which the filter could be rebuilt (with the seed and the walk limit as they"
+                + " are).", () -> {
             CuckooAudit x = with(2, 1, 5, 5, 2, 1, 9, 12, 21);
             due("the limit 10", x.leastBits(1, 5), 2);
             x.setLimit(0);
@@ -297,7 +299,7 @@ final class AuditEdges extends Edges {
             due("1 and 8", firstKeys(6).leastBits(1, 1) + " " + firstKeys(6).leastBits(1, 8), "2 2");
             refusesOtherNumbers(1, 8, (x, length) -> x.leastBits(2, length));
         });
-        edge(30, "NONE is returned only if no exception applies.", () -> {
+        edge(30, NONE_LAST, () -> {
             refused("a wrong length, no b is possible", ARGUMENT, Edges::crowd, x -> x.leastBits(1, 9));
             refused("no slots, no b is possible", ARGUMENT, Edges::crowd, x -> x.leastBits(0, 8));
         });
@@ -327,7 +329,7 @@ final class AuditEdges extends Edges {
             due("120 for 64 slots", crowd().couldFit(6, 1, 0), false);
             due("the stash does not count", with(1, 1, 5, 1, 2, 3).couldFit(1, 1, 0), false);
         });
-        edge(31, "each to its home or its other bucket", () -> {
+        edge(31, "to buckets, each to its home or its other bucket", () -> {
             due("two of the same buckets", with(2, 2, 5, 1, 2).couldFit(2, 1, 0), true);
             due("three of the same two buckets", with(2, 2, 5, 1, 2, 9).couldFit(2, 1, 0), false);
             due("five of them, two slots", with(2, 4, 5, 1, 2, 9, 12, 21).couldFit(2, 2, 0), false);
@@ -336,7 +338,7 @@ final class AuditEdges extends Edges {
             due("all four slots by moves", with(2, 2, 5, 5, 2, 7, 17).couldFit(2, 1, 0), true);
             due("a limit of 0 does not matter", withoutWalks(2, 2, 5, 5, 2, 7, 17).couldFit(2, 1, 0), true);
         });
-        edge(31, "could be distributed to buckets, each to its home or its other bucket", () -> {
+        edge(31, "Returns true if they could.", () -> {
             CuckooAudit x = with(2, 4, 5, 1, 2, 9, 12, 21);
             for (int seed = 0; seed < 100; seed++) {
                 due("the seed " + seed, x.couldFit(2, 2, seed), fitByCounting(new int[] {1, 2, 9, 12, 21}, seed));

@@ -1,10 +1,8 @@
 /**
- * The boundary sentences of promises 9 to 16: what changes the filter. The keys used most, with seed 0 and 2 bits
+ * The sentences of promises 9 to 16: what changes the filter. The keys used most, with seed 0 and 2 bits
  * (home, other bucket): 1, 2, 9, 12, 21 and 26 (1, 0); 10 (0, 1); 5 (1, 2); 7 and 17 (3, 0); 0 (2, 1); 4 (3, 2).
  */
 final class ChangeEdges extends Edges {
-    private static final String KEY_OUT_OF_RANGE = "Throws `IllegalArgumentException` if key is out of range";
-    private static final String LISTED_FIRST = "If several exceptions apply, the one that is listed first is thrown.";
 
     /** Tag 13, home 3, other bucket 2, and the same bits 2 to 6. */
     private static final int[] ALIKE = {365, 684, 704, 747};
@@ -76,10 +74,11 @@ final class ChangeEdges extends Edges {
     }
 
     private static void addWithWalk() {
-        edge(9, "the entry that is held is the new one, the bucket is the home of the key.", () -> {
+        edge(9, "Otherwise a walk is made: the entry that is held is the new one, the bucket is the home of the key.",
+                () -> {
             dueLayout(added(with(2, 1, 5, 4, 10), 17, 1), "29 - 45' 28");
         });
-        edge(9, "comes to slot (i modulo s) of the bucket", () -> {
+        edge(9, "the entry that is held comes to slot (i modulo s) of the bucket", () -> {
             dueLayout(added(with(3, 1, 5, 48, 52), 26, 2), "13 - - 11' - 61 - -");
             dueLayout(added(with(2, 2, 5, 46, 44, 29, 43, 32, 21), 55, 4), "42'/- 47/23' 5/0 42/2'");
             dueLayout(added(with(2, 3, 5, 51, 41, 49, 8, 4, 7), 11, 4), "35'/-/- -/-/- 33/63/45' 1'/9'/3");
@@ -107,7 +106,7 @@ final class ChangeEdges extends Edges {
             dueLayout(added(without(with(2, 4, 5, 11, 5, 49, 43, 41, 37, 13, 55, 21, 1, 8, 33), 1, 5), 23, 2),
                     "-/-/-/- 63'/23'/42/- 33/42'/50/13 42/35/1'/37'");
         });
-        edge(9, "as long as i is smaller than the walk limit", () -> {
+        edge(9, "In step number i (from 0), as long as i is smaller than the walk limit", () -> {
             due("three steps of three", limited(3, 2, 1, 5, 2, 7).add(17), 3);
             due("three steps of two", limited(2, 2, 1, 5, 2, 7).add(17), 100);
             due("one step of one", limited(1, 2, 1, 4, 10).add(17), 1);
@@ -215,7 +214,8 @@ final class ChangeEdges extends Edges {
     }
 
     private static void shortestOrder() {
-        edge(10, "first the home of the key, then its other bucket", () -> {
+        edge(10, "ADDING WITH AS FEW MOVES AS POSSIBLE: Buckets are reached one after the other: first the home of the"
+                + " key, then its other bucket", () -> {
             shortest("-/- 56/61 -/- 35/-", 0, withoutWalks(2, 2, 5, 41, 68), 26);
             shortest("59/24 26'/18' -/- -/-", 0, withoutWalks(2, 2, 5, 25, 35, 31), 56);
             shortest("12 21 56' -", 1, withoutWalks(2, 1, 5, 72, 68), 12);
@@ -252,6 +252,13 @@ final class ChangeEdges extends Edges {
                 () -> {
             dueLayout(withoutWalks(3, 1, 5, 1, 45, 3, 0, 12), "21' 30 - - - 35' 14 16");
             shortest("1 30 - - 16' 21 35 14'", 4, withoutWalks(3, 1, 5, 1, 45, 3, 0, 12), 69);
+        });
+        edge(10, "the chain leads from it back, to the bucket from which it was reached by an entry, and so on, to the"
+                + " home or the other bucket of the key.", () -> {
+            dueLayout(withoutWalks(3, 1, 5, 67, 31, 42, 22, 60), "26 59 26' - - - 22' 36");
+            shortest("36' 59 26' - - 26' 47 22", 3, withoutWalks(3, 1, 5, 67, 31, 42, 22, 60), 18);
+            dueLayout(withoutWalks(3, 1, 5, 6, 22, 49, 91, 42, 31), "36' 31' 63 - - 26' 34 22");
+            shortest("61' 31' 63 34' - 26' 22' 36", 3, withoutWalks(3, 1, 5, 6, 22, 49, 91, 42, 31), 26);
         });
         edge(10, "the new entry comes to the last slot that has become empty (or, without moves, to the first empty"
                 + " slot).", () -> {
@@ -318,8 +325,8 @@ final class ChangeEdges extends Edges {
     }
 
     private static void deleteChooses() {
-        edge(11, "of the entries that match it and by which it is found, one with the greatest length is removed",
-                () -> {
+        edge(11, "DELETING a present key: of the entries that match it and by which it is found, one with the greatest"
+                + " length is removed", () -> {
             lengthsLeft("4 3 2", alike(4, 5, 4, 3, 2), 747, 12);
             lengthsLeft("2 3 4", alike(4, 2, 3, 4, 5), 365, 15);
             lengthsLeft("2 4 3", alike(4, 2, 5, 4, 3), 704, 13);
@@ -436,7 +443,7 @@ final class ChangeEdges extends Edges {
     // ---- grow
 
     private static void growMoves() {
-        edge(12, "b becomes b + 1.", () -> {
+        edge(12, "DOUBLING: b becomes b + 1.", () -> {
             CuckooAudit x = with(1, 4, 5);
             for (int buckets = 4; buckets <= 64; buckets *= 2) {
                 x.grow();
@@ -569,7 +576,8 @@ final class ChangeEdges extends Edges {
     // ---- rebuild
 
     private static void rebuild() {
-        edge(13, "all slots and the stash are emptied, and all present keys are added anew in their order", () -> {
+        edge(13, "REBUILDING: all slots and the stash are emptied, and all present keys are added anew in their order",
+                () -> {
             CuckooAudit x = without(with(2, 1, 5, 1, 2), 1);
             x.add(1);
             dueLayout(x, "45' 30 - -");

@@ -2,12 +2,13 @@ import java.io.IOException;
 import java.nio.file.Files;
 import java.nio.file.Path;
 import java.util.ArrayList;
+import java.util.Arrays;
 import java.util.List;
 import java.util.regex.Matcher;
 import java.util.regex.Pattern;
 
 /**
- * What the tests of the document's boundary sentences share. Each sentence has a test of its own: edge() names its
+ * What the tests of the document's sentences share. Each sentence has a test of its own: edge() names its
  * promise and its words, which must stand in the document, and every answer that is not as due is told with both.
  * No object is asked more than 512 times, since what it answers then is free.
  */
@@ -19,6 +20,13 @@ abstract class Edges {
     static final int LOWEST = Integer.MIN_VALUE;
     static final int HIGHEST = Integer.MAX_VALUE;
 
+    // Sentences that hold for several promises.
+    static final String KEY_RANGE = "KEYS are the numbers from 0 to 999.";
+    static final String KEY_OUT_OF_RANGE = "Throws `IllegalArgumentException` if key is out of range";
+    static final String LISTED_FIRST =
+            "EXCEPTIONS. If several exceptions apply, the one that is listed first is thrown.";
+    static final String NONE_LAST = "NONE is returned only if no exception applies.";
+
     /** Calls that change an object or think of changes. */
     private static final Question[] NEXT = {x -> x.add(5), x -> x.addShortest(5), x -> x.delete(1), x -> x.grow(),
         x -> x.rebuild(3, 2, 3, 1), x -> x.setLimit(7), x -> x.setLength(7), x -> x.clear(), x -> x.execute(),
@@ -26,6 +34,9 @@ abstract class Edges {
         x -> x.blamed(0, 0), x -> x.bestSeed(3), x -> x.leastBits(1, 1), x -> x.couldFit(2, 1, 1)};
 
     private static final int PROMISES = 37;
+    // What only names things: titles, signatures, groups of methods, the face, parameters that have no bounds.
+    private static final String NAMES = "(?s:```.*?```)|(?m:^#.*$|^----.*$|^`.*`$|^- `\\w+`: the (first |last )?"
+            + "(key|bucket|slot)$|^The constructor and the methods follow.*$)";
     private static final String[] DOCUMENT = sections();
     private static final List<List<String>> TESTED = new ArrayList<>();
     private static int promise;
@@ -84,31 +95,40 @@ abstract class Edges {
             if (TESTED.get(promise).isEmpty()) {
                 tellWrong("no sentence is tested");
             }
-            if (DOCUMENT.length > 0) {
-                throwsAndNoneAreTested();
-            }
+        }
+        for (promise = 0; promise < DOCUMENT.length; promise++) {
+            everyWordIsTested();
         }
         System.out.println("EdgesTest: " + sentences + " sentences, " + answers + " answers, " + wrong
                 + " are not as due");
         return wrong == 0;
     }
 
-    /** Each sentence of a promise that begins with Throws, or has the word NONE, must have a test. */
-    private static void throwsAndNoneAreTested() {
-        String text = DOCUMENT[promise].replace(" Throws ", "; Throws ");
-        Matcher named = Pattern.compile("Throws `[^.;]*|[^.;]*\\bNONE\\b[^.;]*").matcher(text);
-        while (named.find()) {
-            String sentence = named.group().trim();
-            words = sentence;
-            if (TESTED.get(promise).stream().noneMatch(w -> w.contains(sentence) || sentence.contains(w))) {
-                tellWrong("no test of its own");
+    /** The tests of a promise leave over no word of it, and all tests together none that stands before the promises. */
+    private static void everyWordIsTested() {
+        String text = DOCUMENT[promise];
+        char[] left = text.toCharArray();
+        for (int tested = 1; tested <= PROMISES; tested++) {
+            if (promise == 0 || promise == tested) {
+                TESTED.get(tested).forEach(itsWords -> blankOut(left, text, itsWords));
             }
+        }
+        Matcher named = Pattern.compile("\\S*\\w.*?(?=  |$)").matcher(new String(left));
+        while (named.find()) {
+            words = named.group().trim();
+            tellWrong("no test of its own");
+        }
+    }
+
+    private static void blankOut(char[] left, String text, String itsWords) {
+        for (int at = text.indexOf(itsWords); at >= 0; at = text.indexOf(itsWords, at + 1)) {
+            Arrays.fill(left, at, at + itsWords.length(), ' ');
         }
     }
 
     /**
-     * The document's text: what stands before the promises, then that of each promise, with single spaces; nothing if
-     * the document is not there, since the answers can be tested without it.
+     * The document's sentences: what stands before the promises, then those of each promise, with single spaces;
+     * nothing if the document is not there, since the answers can be tested without it.
      */
     private static String[] sections() {
         Path document = Path.of("../shared/DOC.md");
@@ -117,14 +137,14 @@ abstract class Edges {
             return new String[0];
         }
         try {
-            String[] parts = Files.readString(document).split("## Promise \\d+: ");
-            if (parts.length != PROMISES + 1) {
-                throw new IllegalStateException("the document has " + (parts.length - 1) + " promises");
+            String[] parts = Files.readString(document).split("## Promise \\d+: .*|## Not promised.*");
+            if (parts.length != PROMISES + 2) {
+                throw new IllegalStateException("the document has " + (parts.length - 2) + " promises");
             }
-            for (int i = 0; i < parts.length; i++) {
-                parts[i] = parts[i].replaceAll("\\s+", " ");
+            for (int i = 0; i <= PROMISES; i++) {
+                parts[i] = parts[i].replaceAll(NAMES, "").replaceAll("\\s+", " ");
             }
-            return parts;
+            return Arrays.copyOf(parts, PROMISES + 1);
         } catch (IOException e) {
             throw new IllegalStateException("../shared/DOC.md cannot be read", e);
         }

@@ -1,4 +1,4 @@
-/** The boundary sentences of the document, each with a test of its own. */
+/** The sentences of the document, each with a test of its own. */
 public final class EdgesTest {
     public static void main(String[] args) {
         KeyEdges.all();

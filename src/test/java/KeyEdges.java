@@ -1,4 +1,4 @@
-/** The boundary sentences of promises 1 to 8: a new object, codes of keys, finding, the present keys. */
+/** The sentences of promises 1 to 8: a new object, codes of keys, finding, the present keys. */
 final class KeyEdges extends Edges {
     /**
      * Pairs of keys with the same tag, whose bodies differ in one bit alone: the bit, the seed, the keys. So the
@@ -8,8 +8,6 @@ final class KeyEdges extends Edges {
         {4, 46, 16, 986}, {5, 4, 144, 194}, {6, 1, 99, 542}, {7, 1, 49, 814}, {8, 7, 488, 693}, {9, 15, 149, 999},
         {10, 60, 188, 563}, {11, 0, 278, 482}, {12, 0, 120, 972}, {13, 0, 397, 880}};
 
-    private static final String OUT_OF_RANGE = "Throws `IllegalArgumentException` if key is out of range";
-    private static final String KEY_RANGE = "KEYS are the numbers from 0 to 999.";
 
     static void all() {
         newObject();
@@ -50,8 +48,22 @@ final class KeyEdges extends Edges {
             due("the highest numbers", x.rebuild(6, 4, 8, 99), 0);
             due("they", numbersOf(x), "64 4 8 99 0");
         });
-        edge(1, "`NONE = -1`: There is no such thing.", () -> {
+        edge(1, "The constants: - `NONE = -1`: There is no such thing.", () -> {
             due("NONE", CuckooAudit.NONE, -1);
+        });
+        edge(1, "A cuckoo filter that can be audited: keys are remembered as short fingerprints in buckets, with two"
+                + " buckets for each key, eviction walks with a limit, a small stash, deletion, and doubling, by which"
+                + " each fingerprint gives a bit to the bucket number. Besides the filter an exact list of the keys is"
+                + " kept, so that all false answers can be counted. Other seeds are tried, walks are predicted,"
+                + " commands are read from a text, and changes can be undone.", () -> {
+            CuckooAudit x = with(2, 1, 5, 5, 2, 7);
+            due("a walk is predicted and made", x.walk(17) + " " + x.add(17), "3 3");
+            due("the stash is used", x.add(1) + " " + x.add(365), "100 100");
+            due("false keys", x.falseKeys(0, 999) + " " + x.falseKey(0), "3 684");
+            due("other seeds", x.bestSeed(4), 2);
+            write(x, "-17;*;");
+            due("a deletion and doubling", x.execute() + " " + layout(x), "2 30' 45 44' - 3' - - 13");
+            due("it is undone", x.undo() + " " + keysOf(x), "3 5 2 7 17 1 365");
         });
         edge(1, "Creates a filter", () -> {
             CuckooAudit first = busy();
@@ -62,7 +74,8 @@ final class KeyEdges extends Edges {
     }
 
     private static void calls() {
-        edge(1, "An object is used for at most 512 calls after it has been made", () -> {
+        edge(1, "An object is used for at most 512 calls after it has been made; what later calls answer is free.",
+                () -> {
             CuckooAudit x = new CuckooAudit();
             for (int i = 0; i < 510; i++) {
                 x.setLimit(i % 51);
@@ -100,14 +113,14 @@ final class KeyEdges extends Edges {
         edge(6, KEY_RANGE, () -> {
             due("0 and 999", with(2, 2, 5, 0, 999).place(0) + " " + with(2, 2, 5, 0, 999).place(999), "8 9");
         });
-        edge(2, OUT_OF_RANGE, () -> refusesOtherKeys((x, key) -> x.tag(key)));
-        edge(3, OUT_OF_RANGE, () -> refusesOtherKeys((x, key) -> x.body(key)));
-        edge(4, OUT_OF_RANGE, () -> {
+        edge(2, KEY_OUT_OF_RANGE, () -> refusesOtherKeys((x, key) -> x.tag(key)));
+        edge(3, KEY_OUT_OF_RANGE, () -> refusesOtherKeys((x, key) -> x.body(key)));
+        edge(4, KEY_OUT_OF_RANGE, () -> {
             refusesOtherKeys((x, key) -> x.bucket(key, true));
             refusesOtherKeys((x, key) -> x.bucket(key, false));
         });
-        edge(5, OUT_OF_RANGE, () -> refusesOtherKeys((x, key) -> x.found(key)));
-        edge(6, OUT_OF_RANGE, () -> refusesOtherKeys((x, key) -> x.place(key)));
+        edge(5, KEY_OUT_OF_RANGE, () -> refusesOtherKeys((x, key) -> x.found(key)));
+        edge(6, KEY_OUT_OF_RANGE, () -> refusesOtherKeys((x, key) -> x.place(key)));
     }
 
     private static CuckooAudit fresh() {
@@ -122,19 +135,29 @@ final class KeyEdges extends Edges {
 
     private static void codes() {
         // Without long arithmetic the products of 6 and 8 would be negative.
-        edge(2, "in long arithmetic", () -> {
+        edge(2, "The code of a key x is computed like this, in long arithmetic", () -> {
             due("6 and 8", fresh().tag(6) + " " + fresh().tag(8), "34 1");
             due("0 and 999 with seed 99", withSeed(2, 99).tag(0) + " " + withSeed(2, 99).tag(999), "38 49");
         });
-        edge(3, "in long arithmetic", () -> {
+        edge(3, "The code of a key x is computed like this, in long arithmetic", () -> {
             due("6 and 8", fresh().body(6) + " " + fresh().body(8), "3270 12774");
             due("0 and 999 with seed 99", withSeed(2, 99).body(0) + " " + withSeed(2, 99).body(999), "11647 5738");
         });
-        edge(3, "(quotients rounded down)", () -> {
-            for (int seed : new int[] {0, 99}) {
-                for (int key = 0; key < 1000; key += 200) {
-                    tagsAndBodies(withSeed(2, seed), seed, key, key + 199);
-                }
+        edge(2, "v = (x * 48271 + seed * 7919 + 12345) modulo 1048576; then v = v xor (v / 512); then v = (v * 7621 +"
+                + " 1) modulo 1048576; then v = v xor (v / 2048) (quotients rounded down).", () -> {
+            due("0 with seed 0, v is 575358", fresh().tag(0) + " " + fresh().body(0), "35 1918");
+            due("1 with seed 0, v is 505025", fresh().tag(1) + " " + fresh().body(1), "30 13505");
+        });
+        edge(2, "Returns the tag of a key. Returns the tag.", () -> {
+            for (int key = 0; key < 1000; key++) {
+                due("tag of " + key, withSeed(2, key % 100).tag(key), tagOf(key, key % 100));
+                due("tag of " + key, fresh().tag(key), tagOf(key, 0));
+            }
+        });
+        edge(3, "Returns the body of a key. Returns the body.", () -> {
+            for (int key = 0; key < 1000; key++) {
+                due("body of " + key, withSeed(2, 99 - key % 100).body(key), bodyOf(key, 99 - key % 100));
+                due("body of " + key, fresh().body(key), bodyOf(key, 0));
             }
         });
         edge(2, "The tag of the key is v / 16384 (0 to 63)", () -> {
@@ -161,7 +184,8 @@ final class KeyEdges extends Edges {
             due("key 0 with 2 and 64", withSeed(1, 0).bucket(0, false) + " " + withSeed(6, 0).bucket(0, false), "0 62");
         });
         // The tags 17 (key 93), 55 (114), 62 (47) and 36 (42) have the numbers 0, 62, 1 and 63 modulo 64.
-        edge(4, "made odd by adding 1 if it is even", () -> {
+        edge(4, "The step of a tag t is the number ((37 * t + 11) modulo 64), made odd by adding 1 if it is even",
+                () -> {
             due("the step of number 0", withSeed(6, 0).bucket(93, true) ^ withSeed(6, 0).bucket(93, false), 1);
             due("the step of number 62", withSeed(6, 0).bucket(114, true) ^ withSeed(6, 0).bucket(114, false), 63);
             due("the step of number 1", withSeed(6, 0).bucket(47, true) ^ withSeed(6, 0).bucket(47, false), 1);
@@ -174,20 +198,14 @@ final class KeyEdges extends Edges {
             due("from bucket 63", withSeed(6, 0).bucket(505, true), 50);
             due("from bucket 0", withSeed(6, 13).bucket(924, true), 43);
         });
-        edge(4, "Returns one of the two buckets of a key.", () -> {
+        edge(4, "Returns one of the two buckets of a key. - `other`: true for its other bucket, false for its home"
+                + " Returns the number of the bucket.", () -> {
             for (int bits = 1; bits <= 6; bits++) {
                 for (int key = 0; key < 1000; key += 250) {
                     twoBuckets(withSeed(bits, 0), bits, key, key + 249);
                 }
             }
         });
-    }
-
-    private static void tagsAndBodies(CuckooAudit x, int seed, int from, int to) {
-        for (int key = from; key <= to; key++) {
-            due("tag of " + key, x.tag(key), tagOf(key, seed));
-            due("body of " + key, x.body(key), bodyOf(key, seed));
-        }
     }
 
     private static void twoBuckets(CuckooAudit x, int bits, int from, int to) {
@@ -234,6 +252,15 @@ final class KeyEdges extends Edges {
     }
 
     private static void finding() {
+        edge(5, "Tells whether a key is found. Returns true if it is.", () -> {
+            int[] keys = {365, 41, 306, 381, 0, 13, 999, 505};
+            for (int key = 0; key < 1000; key += 500) {
+                CuckooAudit x = with(3, 4, 3, keys);
+                for (int i = key; i < key + 500; i++) {
+                    due("found(" + i + ")", x.found(i), isAlikeOne(i, keys, 3, 3));
+                }
+            }
+        });
         edge(5, "A slot is empty or contains an entry.", () -> {
             for (int key = 0; key < 1000; key += 500) {
                 CuckooAudit x = new CuckooAudit();
@@ -268,6 +295,17 @@ final class KeyEdges extends Edges {
         });
     }
 
+    /** Tells whether a key has the tag, the home and the fingerprint of one of the keys, with seed 0. */
+    private static boolean isAlikeOne(int key, int[] keys, int bits, int length) {
+        for (int one : keys) {
+            boolean sameBody = bodyOf(key, 0) % (1 << bits + length) == bodyOf(one, 0) % (1 << bits + length);
+            if (sameBody && tagOf(key, 0) == tagOf(one, 0)) {
+                return true;
+            }
+        }
+        return false;
+    }
+
     private static void places() {
         edge(6, "where the slots of the home come first, in ascending order, then those of the other bucket", () -> {
             int[] keys = {1, 2, 9, 12, 21, 26, 62, 81};
@@ -299,7 +337,7 @@ final class KeyEdges extends Edges {
             due("a key that was deleted", deleted(365).place(365), NONE);
             due("a key with the same home alone", with(2, 2, 5, 365).place(7), NONE);
         });
-        edge(6, "NONE is returned only if no exception applies.", () -> {
+        edge(6, NONE_LAST, () -> {
             refused("a wrong key of a new object", ARGUMENT, CuckooAudit::new, x -> x.place(1000));
             refused("a wrong key of a new object", ARGUMENT, CuckooAudit::new, x -> x.place(-1));
         });
@@ -333,7 +371,8 @@ final class KeyEdges extends Edges {
     }
 
     private static void presentKeys() {
-        edge(7, "in the order in which they were added; a key is in it at most once.", () -> {
+        edge(7, "PRESENT KEYS. There is a list of present keys, in the order in which they were added; a key is in it"
+                + " at most once.", () -> {
             CuckooAudit x = with(3, 4, 8, 999, 0, 500, 4);
             due("four keys", keysOf(x), "999 0 500 4");
             x.delete(999);
@@ -346,7 +385,7 @@ final class KeyEdges extends Edges {
             due("without the last", keysOf(x), "0 4");
             refused("add of a key in the list", STATE, () -> with(3, 4, 8, 0, 4), y -> y.add(4));
         });
-        edge(7, "its position in the list, from 0", () -> {
+        edge(7, "Returns a present key. - `index`: its position in the list, from 0 Returns the key.", () -> {
             CuckooAudit x = crowd();
             due("the first and the last", x.present(0) + " " + x.present(119), "0 119");
         });
@@ -359,7 +398,7 @@ final class KeyEdges extends Edges {
             refused("present(1) behind a deletion", POSITION, KeyEdges::oneOfTwo, x -> x.present(1));
             refused("present(0) behind clear", POSITION, KeyEdges::cleared, x -> x.present(0));
         });
-        edge(8, "Returns 0 to 120.", () -> {
+        edge(8, "Returns the number of present keys. Returns 0 to 120.", () -> {
             due("none", fresh().count(), 0);
             due("all that may be", crowd().count(), 120);
             due("behind a deletion", oneOfTwo().count(), 1);

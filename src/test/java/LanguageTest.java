@@ -62,7 +62,11 @@ public final class LanguageTest {
             classInside(inside);
         }
         check(CuckooAudit.class.getDeclaredClasses().length < 12, "too many classes");
-        source(Files.readString(Path.of("src/main/java/CuckooAudit.java")));
+        String text = Files.readString(Path.of("src/main/java/CuckooAudit.java"));
+        source(text);
+        if (Files.exists(Path.of("../shared/DOC.md"))) {
+            documentsFace(Files.readString(Path.of("../shared/DOC.md")), text);
+        }
         System.out.println("LanguageTest: " + wrong + " faults");
         if (wrong != 0) {
             System.exit(1);
@@ -106,6 +110,27 @@ public final class LanguageTest {
         check(none.getInt(null) == -1, "NONE is not -1");
     }
 
+    /** The public lines of the source must be those of the document's face, in the same order. */
+    private static void documentsFace(String document, String text) {
+        int begin = document.indexOf("```java");
+        String want = publicLines(document.substring(begin, document.indexOf("```", begin + 1)));
+        String got = publicLines(withoutComments(text));
+        check(got.equals(want), "the document's face is\n" + want + "the source's is\n" + got);
+    }
+
+    private static String publicLines(String code) {
+        StringBuilder lines = new StringBuilder();
+        Matcher line = Pattern.compile("public [^;{]*").matcher(code.replaceAll("\\s+", " "));
+        while (line.find()) {
+            lines.append(line.group().trim()).append('\n');
+        }
+        return lines.toString();
+    }
+
+    private static String withoutComments(String text) {
+        return text.replaceAll("(?s)/\\*.*?\\*/", "").replaceAll("//[^\n]*", "");
+    }
+
     private static boolean isFixed(Field f) {
         return !Modifier.isStatic(f.getModifiers()) || Modifier.isFinal(f.getModifiers());
     }
@@ -142,7 +167,7 @@ public final class LanguageTest {
     }
 
     private static void source(String text) {
-        String code = text.replaceAll("(?s)/\\*.*?\\*/", "").replaceAll("//[^\n]*", "");
+        String code = withoutComments(text);
         for (String banned : NOT_IN_THE_SOURCE) {
             Matcher m = Pattern.compile(banned).matcher(code);
             check(!m.find(), "the source has " + banned);

@@ -1,12 +1,9 @@
 /**
- * The boundary sentences of promises 17 to 24: what there is, and what would be. The keys used most, with seed 0 and 2
+ * The sentences of promises 17 to 24: what there is, and what would be. The keys used most, with seed 0 and 2
  * bits (home, other bucket): 1, 2, 9, 12, 21 and 26 (1, 0); 5 (1, 2); 7 and 17 (3, 0); 0 (2, 1); 25 (0, 3); 27 (2, 3).
  */
 final class QuestionEdges extends Edges {
-    private static final String KEY_OUT_OF_RANGE = "Throws `IllegalArgumentException` if key is out of range";
     private static final String WHAT_OUT_OF_RANGE = "Throws `IllegalArgumentException` if what is out of range";
-    private static final String LISTED_FIRST = "If several exceptions apply, the one that is listed first is thrown.";
-    private static final String NONE_LAST = "NONE is returned only if no exception applies.";
 
     static void all() {
         infoNumbers();
@@ -38,7 +35,7 @@ final class QuestionEdges extends Edges {
     // ---- info
 
     private static void infoNumbers() {
-        edge(17, "0 the number of buckets, 1 s, 2 f, 3 the seed, 4 the walk limit", () -> {
+        edge(17, "Returns a number. - `what`: 0 the number of buckets, 1 s, 2 f, 3 the seed, 4 the walk limit", () -> {
             CuckooAudit x = new CuckooAudit();
             x.rebuild(1, 1, 1, 0);
             x.setLimit(0);
@@ -74,7 +71,7 @@ final class QuestionEdges extends Edges {
             due("in the middle of the stash", stash.info(7), 2);
             due("f is not asked", shorterThen(1, 3, 5).info(2), 5);
         });
-        edge(17, "8 1 if doubling is possible, otherwise 0", () -> {
+        edge(17, "8 1 if doubling is possible, otherwise 0 Returns that number.", () -> {
             due("b 2", new CuckooAudit().info(8), 1);
             due("b 5 and length 1", with(5, 1, 1, 0).info(8), 1);
             due("b 6", with(6, 1, 8, 0).info(8), 0);
@@ -102,7 +99,8 @@ final class QuestionEdges extends Edges {
     // ---- slot, stashed, filled
 
     private static void slotParts() {
-        edge(18, "- `what`: 0 the tag, 1 the length, 2 the fingerprint, 3 the side of its entry", () -> {
+        edge(18, "Returns something about a slot. - `what`: 0 the tag, 1 the length, 2 the fingerprint, 3 the side of"
+                + " its entry", () -> {
             dueSlot(allZero(), 0, 0, 0, 0, 0, 0);
             CuckooAudit greatest = with(6, 4, 8, 505);
             dueSlot(greatest, 63, 0, 45, 8, 255, 0);
@@ -110,6 +108,17 @@ final class QuestionEdges extends Edges {
             dueSlot(tags, 2, 0, 0, 8, 2770 >> 2 & 255, 0);
             dueSlot(tags, 2, 1, 63, 8, 5650 >> 2 & 255, 0);
             dueSlot(with(2, 1, 5, 1, 2), 0, 0, 45, 5, 14, 1);
+        });
+        // All bits of the body of 505 are 1; its buckets are those of 1.
+        edge(18, "An entry consists of a tag, a length L from 0 to 8, a fingerprint of L bits, and a side, 0 or 1.",
+                () -> {
+            for (int length = 1; length <= 8; length++) {
+                dueSlot(with(1, 1, length, 505), 1, 0, 45, length, (1 << length) - 1, 0);
+                dueSlot(with(1, 1, length, 1, 505), 0, 0, 45, length, (1 << length) - 1, 1);
+            }
+            CuckooAudit shortest = with(1, 1, 1, 505);
+            shortest.grow();
+            dueSlot(shortest, 3, 0, 45, 0, 0, 0);
         });
         edge(18, "as a number with bit b as bit 0", () -> {
             dueSlot(with(2, 1, 8, 0), 2, 0, 35, 8, 0b11011111, 0);
@@ -174,11 +183,11 @@ final class QuestionEdges extends Edges {
     }
 
     private static void stashed() {
-        edge(19, "- `index`: its position, from 0", () -> {
+        edge(19, "Returns something about an entry of the stash. - `index`: its position, from 0", () -> {
             CuckooAudit x = withoutWalks(1, 1, 5, 1, 2, 3, 4, 0);
             due("the three", x.stashed(0, 0) + " " + x.stashed(1, 0) + " " + x.stashed(2, 0), "14 45 35");
         });
-        edge(19, "- `what`: 0 the tag, 1 the length, 2 the fingerprint, 3 its home", () -> {
+        edge(19, "- `what`: 0 the tag, 1 the length, 2 the fingerprint, 3 its home Returns that number.", () -> {
             CuckooAudit x = withoutWalks(1, 1, 8, 1, 2, 0, 142);
             due("the entry of 0", stashedAt(x, 0), "35 8 191 0");
             due("that of 142", stashedAt(x, 1), "0 8 " + (0b100110001000 >> 1 & 255) + " 0");
@@ -204,7 +213,7 @@ final class QuestionEdges extends Edges {
     }
 
     private static void filled() {
-        edge(20, "- `entries`: 0 to 4", () -> {
+        edge(20, "Counts buckets by their entries. - `entries`: 0 to 4", () -> {
             dueFilled(new CuckooAudit(), "4 0 0 0 0");
             dueFilled(with(6, 4, 8), "64 0 0 0 0");
             dueFilled(with(1, 4, 5, 1, 2, 4, 5, 9, 7, 15, 19), "0 0 0 0 2");
@@ -257,6 +266,15 @@ final class QuestionEdges extends Edges {
             due("a present one of 120", crowd().walk(119), 0);
         });
         edge(21, KEY_OUT_OF_RANGE, () -> refusesOtherKeys((x, key) -> x.walk(key)));
+        edge(21, "Predicts where the entry of a key would come if it were added as told above", () -> {
+            for (int slots = 1; slots <= 4; slots++) {
+                CuckooAudit x = with(2, slots, 5);
+                for (int key = 0; key < 30; key++) {
+                    due("walk(" + key + ")", x.walk(key), addedOrNone(x, key));
+                }
+                due("the stash is full", x.info(6), 3);
+            }
+        });
         edge(21, "Predicts where the entry of a key would come", () -> {
             changesNothing("walk without steps", Edges::busy, x -> x.walk(999));
             changesNothing("walk that ends well", () -> with(2, 1, 5, 5, 2, 7), x -> x.walk(17));
@@ -265,12 +283,21 @@ final class QuestionEdges extends Edges {
         });
     }
 
+    private static int addedOrNone(CuckooAudit x, int key) {
+        try {
+            return x.add(key);
+        } catch (IllegalStateException e) {
+            return NONE;
+        }
+    }
+
     private static void walkStep() {
         edge(22, "- `step`: its number, from 0", () -> {
             dueSteps(with(2, 1, 5, 5, 2, 7), 17, 0, "12 3", "0 45", "4 44", "-1 -1");
             dueSteps(limited(1, with(2, 1, 5, 4, 10)), 17, 0, "12 45", "-1 -1");
         });
-        edge(22, "true for the tag of the entry that is taken out of its slot, false for 4 * bucket + slot", () -> {
+        edge(22, "- `tag`: true for the tag of the entry that is taken out of its slot, false for 4 * bucket + slot"
+                + " Returns that number", () -> {
             dueSteps(with(3, 1, 5, 48, 52), 26, 0, "20 13", "0 11", "-1 -1");
             dueSteps(with(2, 2, 5, 46, 44, 29, 43, 32, 21), 55, 0, "8 2", "13 5", "8 23", "5 42", "-1 -1");
             dueSteps(with(2, 3, 5, 51, 41, 49, 8, 4, 7), 11, 0, "8 9", "13 45", "10 1", "12 35", "-1 -1");
@@ -333,8 +360,8 @@ final class QuestionEdges extends Edges {
             due("the other bucket", withoutWalks(2, 1, 5, 1).leastMoves(2), 0);
             due("the last slot of the other bucket", with(2, 3, 5, 1, 2, 9, 10, 16).leastMoves(12), 0);
         });
-        edge(23, "how many entries would have to be moved at least, each from one of its two buckets to the other"
-                + " one", () -> {
+        edge(23, "how many entries would have to be moved at least, each from one of its two buckets to the other one,"
+                + " so that one of the two buckets of a key has an empty slot", () -> {
             due("one", withoutWalks(2, 1, 5, 72, 68).leastMoves(12), 1);
             due("one from the other bucket", withoutWalks(2, 1, 5, 39, 14).leastMoves(67), 1);
             due("two", with(2, 1, 5, 5, 2, 7).leastMoves(17), 2);
@@ -366,7 +393,7 @@ final class QuestionEdges extends Edges {
         edge(24, "Throws `IllegalArgumentException` if not 0 <= from <= to <= 999", () -> {
             refusesOtherRanges((x, from, to) -> x.roomFor(from, to));
         });
-        edge(24, "the keys from from to to", () -> {
+        edge(24, "Tells how many keys could be added one after the other: the keys from from to to", () -> {
             CuckooAudit x = with(6, 4, 8);
             due("the lowest", x.roomFor(0, 0), 1);
             due("the highest", x.roomFor(999, 999), 1);

@@ -1,6 +1,5 @@
-/** The boundary sentences of promises 33 to 37: texts, commands, undo and the digest. */
+/** The sentences of promises 33 to 37: texts, commands, undo and the digest. */
 final class TextEdges extends Edges {
-    private static final String LISTED_FIRST = "If several exceptions apply, the one that is listed first is thrown.";
     private static final String POSITION_OF_ERROR = "The syntax error position of the text is the index of the first"
             + " byte that cannot stand where it stands (also of a fourth digit), or the length of the text if it ends"
             + " too early.";
@@ -24,7 +23,7 @@ final class TextEdges extends Edges {
     // ---- append, clearText
 
     private static void append() {
-        edge(33, "- `value`: the byte, 0 to 127", () -> {
+        edge(33, "Appends a byte to the text. - `value`: the byte, 0 to 127", () -> {
             due("0", new CuckooAudit().append(0), 1);
             due("127", new CuckooAudit().append(127), 1);
             due("the byte 0 is an error", withText("\0").execute(), -10);
@@ -34,7 +33,7 @@ final class TextEdges extends Edges {
             refusesOtherNumbers(0, 127, (x, value) -> x.append(value));
             refusedEverywhere("a sign and 256", ARGUMENT, x -> x.append('+' + 256));
         });
-        edge(33, "There is a text of at most 100 bytes, initially empty.", () -> {
+        edge(33, "TEXTS. There is a text of at most 100 bytes, initially empty.", () -> {
             CuckooAudit x = new CuckooAudit();
             for (int length = 1; length <= 100; length++) {
                 due("append", x.append('*'), length);
@@ -177,6 +176,16 @@ final class TextEdges extends Edges {
     // ---- commands
 
     private static void commands() {
+        edge(35, "\"+\" number \";\" like add(), \"-\" number \";\" like delete(), \"*;\" like grow().", () -> {
+            likeTheMethod("+000;", CuckooAudit::new, x -> x.add(0));
+            likeTheMethod("+999;", CuckooAudit::new, x -> x.add(999));
+            likeTheMethod("+17;", () -> with(2, 1, 5, 5, 2, 7), x -> x.add(17));
+            likeTheMethod("+09;", () -> with(2, 1, 5, 1, 2), x -> x.add(9));
+            likeTheMethod("-2;", () -> with(1, 1, 5, 1, 2, 3, 4, 5), x -> x.delete(2));
+            likeTheMethod("-005;", () -> with(1, 1, 5, 1, 2, 3, 4, 5), x -> x.delete(5));
+            likeTheMethod("*;", CuckooAudit::new, x -> x.grow());
+            likeTheMethod("*;", () -> with(1, 1, 5, 1, 2, 3, 4, 5), x -> x.grow());
+        });
         edge(35, "Returns the number of commands", () -> {
             due("none", new CuckooAudit().execute(), 0);
             due("33 commands, 99 bytes", withText("+0;-0;".repeat(16) + "+0;").execute(), 33);
@@ -220,6 +229,16 @@ final class TextEdges extends Edges {
             write(y, "+7;+17;*;-5;");
             due("all is undone", allOf(x), allOf(y));
         });
+    }
+
+    private static void likeTheMethod(String command, Maker maker, Call call) {
+        CuckooAudit x = maker.make();
+        write(x, command);
+        due(command, x.execute(), 1);
+        x.clearText();
+        CuckooAudit y = maker.make();
+        call.on(y);
+        due("all behind " + command, allOf(x), allOf(y));
     }
 
     private static void failingCommands() {
@@ -270,8 +289,8 @@ final class TextEdges extends Edges {
             refused("undo with a text alone", STATE, () -> withText("+1;"), CuckooAudit::undo);
             refused("undo of a fifth call", STATE, TextEdges::undoneToTheEnd, CuckooAudit::undo);
         });
-        edge(36, "Each successful call of a method that is described as undoable saves the state before the call, even"
-                + " if nothing changes.", () -> {
+        edge(36, "UNDO. Each successful call of a method that is described as undoable saves the state before the call,"
+                + " even if nothing changes.", () -> {
             CuckooAudit x = new CuckooAudit();
             x.clear();
             x.setLimit(10);
@@ -414,7 +433,8 @@ final class TextEdges extends Edges {
     // ---- digest
 
     private static void digest() {
-        edge(37, "Start with h = 1960 and, for each of the following values v, set h = 31 * h + v", () -> {
+        edge(37, "Returns a hash of the state. Start with h = 1960 and, for each of the following values v, set h ="
+                + " 31 * h + v", () -> {
             due("a new object", new CuckooAudit().digest(), digestOf(new CuckooAudit(), 0, 0));
             due("a new object", new CuckooAudit().digest(), -5599141824529239349L);
         });
@@ -440,14 +460,14 @@ final class TextEdges extends Edges {
             due("one", with(1, 1, 5, 1, 2, 3).digest(), digestOf(with(1, 1, 5, 1, 2, 3), 0, 4));
             due("three", with(1, 1, 5, 1, 2, 3, 4, 5).digest(), digestOf(with(1, 1, 5, 1, 2, 3, 4, 5), 0, 4));
         });
-        edge(37, "with the overflow of long arithmetic ignored.", () -> {
+        edge(37, "Returns the hash, with the overflow of long arithmetic ignored.", () -> {
             long h = digestOf(busy(), 10, 4);
             due("much", busy().digest(), h);
         });
     }
 
     private static void digestOfParts() {
-        edge(37, "KEYS are the numbers from 0 to 999.", () -> {
+        edge(37, KEY_RANGE, () -> {
             // With the seed 5 the entries of 97 and 165 would find -1 and 1000, if these were keys.
             CuckooAudit x = new CuckooAudit();
             x.rebuild(1, 4, 1, 5);
